@@ -114,6 +114,12 @@ public final class ChangeTest {
         changed(bench, before, before);
         Check.throwsExactly("no normal form", Check.ILLEGAL_ARGUMENT, () -> bench.normalize(1));
         Check.due("nothing to undo", bench.undoCount(), 0);
+        OverlapBench inner = Check.load(SYMBOLS + "rule f(A)=g(A,A);rule a=b;rule h(A,B,C)=B;rule g(B,f(B))=g(B,f(B));"
+                + "term f(a);term h(g(A,f(A)),b,b)");
+        Check.due("innermost, not outermost", inner.normalize(0), 2);
+        Check.due("leads to g(b,b)", Check.term(inner, 0), "g(b,b)");
+        OverlapBench loop = Check.load(SYMBOLS + "rule a=a;rule h(A,B,C)=B;term h(a,b,b)");
+        Check.throwsExactly("only outermost ends", Check.ILLEGAL_ARGUMENT, () -> loop.normalize(0));
     }
 
     private static void copying() {
@@ -175,6 +181,9 @@ public final class ChangeTest {
         Check.due("swap with itself", bench.swapRules(1, 1), 4);
         Check.due("it counts", bench.undoCount(), 1);
         changed(bench, before, before);
+        bench.removeTerm(1);
+        bench.removeTerm(1);
+        Check.due("removed terms have no redexes", bench.swapRules(0, 1), 1);
         Check.due("without terms", Check.load(SYMBOLS + "rule a=b;rule b=a").swapRules(0, 1), 0);
     }
 

@@ -215,6 +215,13 @@ public final class InputTest {
         refused(1, "system;symbol |abcdefg 0");
         refused(1, "system;symbol abcdef 0;term |abcdefg");
         refused(1, "system;|symbola 0");
+        refused(1, "system;|symbo a 0");
+        refused(1, SYMBOLS + "|rulex a=a");
+        refused(1, SYMBOLS + "|rul a=a");
+        refused(1, SYMBOLS + "|terms a");
+        refused(1, SYMBOLS + "term a;|copyx 0");
+        refused(1, SYMBOLS + "rule a=a;|flips 0");
+        refused(1, SYMBOLS + "rule a=a;term a;|steps 0");
         refused(1, "system;symbol |Ab 0");
         refused(1, "system;symbol |1 0");
         refused(1, "system;symbol |");

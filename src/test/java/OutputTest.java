@@ -44,6 +44,8 @@ public final class OutputTest {
         Check.due("no normal form of w", bench.writeNormalForm(3), 1);
         Check.due("the terms stay", Check.term(bench, 0), "add(s(zero),s(A))");
         Check.due("no change", bench.undoCount(), 0);
+        OverlapBench inner = Check.load("system;symbol a 0;symbol b 0;symbol k 2;rule a=a;rule k(A,B)=B;term k(a,b)");
+        Check.due("innermost steps count", Check.output(inner, inner.writeNormalForm(0)), "?");
         OverlapBench grow = Check.load("system;symbol a 0;symbol f 1;rule a=f(a);term a");
         Check.due("too large", Check.output(grow, grow.writeNormalForm(0)), "?");
     }

@@ -115,6 +115,8 @@ public final class RewriteTest {
         Check.due("a loop's size", bench.normalFormSize(0), OverlapBench.NONE);
         Check.due("innermost runs into the loop", bench.stepsInnermost(1), OverlapBench.NONE);
         Check.due("outermost leaves it", bench.stepsOutermost(1), 1);
+        Check.due("the size is that of innermost steps", bench.normalFormSize(1), OverlapBench.NONE);
+        Check.due("and so is equality", bench.haveSameNormalForm(1, 1), false);
         Check.due("loops have no normal form", bench.haveSameNormalForm(0, 0), false);
         Check.due("nor with another", bench.haveSameNormalForm(2, 0), false);
         Check.due("nor the other way", bench.haveSameNormalForm(0, 2), false);
