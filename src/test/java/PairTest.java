@@ -46,6 +46,8 @@ public final class PairTest {
         unified("g(A,B)", "g(B,A)", 3);
         unified("g(A,f(A))", "g(f(B),C)", 6);
         unified("h(A,B,A)", "h(f(C),C,f(g(a,a)))", 12);
+        unified("h(a,b,A)", "h(H,H,H)", 0);
+        unified("h(H,H,H)", "h(H,a,B)", 4);
         unified("h(A,B,f(H))", "h(B,f(B),H)", 6);
     }
 
