@@ -128,8 +128,11 @@ public final class ChangeTest {
         String[] parts = {"g(f(A),h(a,f(b),C))", "f(A)", "A", "h(a,f(b),C)", "a", "f(b)", "b", "C"};
         for (int p = 0; p < parts.length; p++) {
             Check.due("copySubterm " + p, bench.copySubterm(0, p), 2);
-            changed(bench, before + parts[p] + ";", before);
+            Check.due("part " + p, Check.term(bench, 2), parts[p]);
+            bench.undo();
         }
+        bench.copySubterm(0, 3);
+        changed(bench, before + parts[3] + ";", before);
         for (int i = 2; i < 6; i++) {
             Check.due("copy " + i, bench.copySubterm(1, 0), i);
         }

@@ -4,6 +4,9 @@ import java.util.Objects;
 /** What the tests share: feeding texts, comparing answers, and the exit code. */
 final class Check {
     private static int wrong = 0;
+    private static int made = 0;
+    /** What the checks are about, for the reader of a wrong answer. */
+    static String about = "";
 
     interface Call {
         Object run();
@@ -16,10 +19,16 @@ final class Check {
     private Check() {
     }
 
+    /** The number of checks so far. */
+    static int made() {
+        return made;
+    }
+
     static void due(String what, Object got, Object want) {
+        made++;
         if (!Objects.equals(got, want)) {
             wrong++;
-            System.out.println(what + ": got " + got + ", due is " + want);
+            System.out.println((about.isEmpty() ? "" : "[" + about + "] ") + what + ": got " + got + ", due is " + want);
         }
     }
 
@@ -68,6 +77,27 @@ final class Check {
         return bench;
     }
 
+    /** The bar in the text marks where the error is due, and is not part of the text. */
+    static void refused(int code, String marked) {
+        int position = marked.indexOf('|');
+        refusedAt(code, marked.substring(0, position) + marked.substring(position + 1), position);
+    }
+
+    static void refusedAt(int code, String text, int position) {
+        OverlapBench bench = new OverlapBench();
+        due("refuses " + text, parse(bench, text), ILLEGAL_ARGUMENT);
+        due("code of " + text, bench.parseErrorCode(), code);
+        due("position of " + text, bench.parseErrorPosition(), position);
+        throwsExactly("no system after " + text, ILLEGAL_STATE, bench::ruleCount);
+    }
+
+    static void taken(String text, String system) {
+        OverlapBench bench = load(text);
+        due("code of " + text, bench.parseErrorCode(), 0);
+        due("position of " + text, bench.parseErrorPosition(), OverlapBench.NONE);
+        due("system of " + text, system(bench), system);
+    }
+
     static String output(OverlapBench bench, int length) {
         StringBuilder text = new StringBuilder();
         for (int i = 0; i < length; i++) {
@@ -75,6 +105,15 @@ final class Check {
         }
         throwsExactly("outputByte behind the output", OUT_OF_BOUNDS, () -> bench.outputByte(length));
         return text.toString();
+    }
+
+    /** Looks at the bytes at both ends and at each seventh one between: 512 calls are all that an object promises. */
+    static void longOutput(String what, OverlapBench bench, int length, String text) {
+        due(what + ", length", length, text.length());
+        for (int i = 0; i < text.length(); i += i < 40 || i >= text.length() - 47 ? 1 : 7) {
+            due(what + ", byte " + i, bench.outputByte(i), (int) text.charAt(i));
+        }
+        throwsExactly(what + ", behind it", OUT_OF_BOUNDS, () -> bench.outputByte(text.length()));
     }
 
     static String term(OverlapBench bench, int term) {

@@ -18,24 +18,6 @@ public final class InputTest {
         Check.finish();
     }
 
-    /** The bar in the text marks where the error is due, and is not part of the text. */
-    private static void refused(int code, String marked) {
-        int position = marked.indexOf('|');
-        String text = marked.substring(0, position) + marked.substring(position + 1);
-        OverlapBench bench = new OverlapBench();
-        Check.due("refuses " + marked, Check.parse(bench, text), Check.ILLEGAL_ARGUMENT);
-        Check.due("code of " + marked, bench.parseErrorCode(), code);
-        Check.due("position of " + marked, bench.parseErrorPosition(), position);
-        Check.throwsExactly("no system after " + marked, Check.ILLEGAL_STATE, bench::ruleCount);
-    }
-
-    private static void taken(String text, String system) {
-        OverlapBench bench = Check.load(text);
-        Check.due("code of " + text, bench.parseErrorCode(), 0);
-        Check.due("position of " + text, bench.parseErrorPosition(), OverlapBench.NONE);
-        Check.due("system of " + text, Check.system(bench), system);
-    }
-
     private static void newObject() {
         OverlapBench bench = new OverlapBench();
         Check.due("new bufferLength", bench.bufferLength(), 0);
@@ -169,214 +151,214 @@ public final class InputTest {
     }
 
     private static void texts() {
-        taken("system", "");
-        taken("  system  ", "");
-        taken("system;symbol a 0", "");
-        taken(" system ; symbol a 0 ; term a ", "a;");
-        taken("system;symbol a0;symbol f2;rule f(A,B)=B;term f(a,C)", "f(A,B)=B;f(a,C);");
-        taken(SYMBOLS + "term h ( A , f ( B ) , g ( a , H ) ) ", "h(A,f(B),g(a,H));");
-        taken(SYMBOLS + "rule g ( A , A ) = f ( A ) ; term A", "g(A,A)=f(A);A;");
-        refused(1, "|");
-        refused(1, "   |");
-        refused(1, "|rule");
-        refused(1, "|;");
-        refused(1, "|System");
-        refused(1, "|systems");
-        refused(1, "|syste");
-        refused(1, "system;|");
-        refused(1, "system;  |");
-        refused(1, "system |symbol a 0");
-        refused(1, "system;|;");
-        refused(1, "system;|symbols a 0");
-        refused(1, "system;|system");
-        refused(1, "system;|a");
-        refused(1, "system;|A");
-        refused(1, "system;|1");
-        refused(1, "system|=");
-        refused(1, "system|,");
-        refused(1, "system|(");
-        refused(1, "system|)");
-        refused(1, "system|0");
-        refused(1, "system|A");
-        refused(1, SYMBOLS + "term a |term a");
-        refused(1, SYMBOLS + "term a;|");
+        Check.taken("system", "");
+        Check.taken("  system  ", "");
+        Check.taken("system;symbol a 0", "");
+        Check.taken(" system ; symbol a 0 ; term a ", "a;");
+        Check.taken("system;symbol a0;symbol f2;rule f(A,B)=B;term f(a,C)", "f(A,B)=B;f(a,C);");
+        Check.taken(SYMBOLS + "term h ( A , f ( B ) , g ( a , H ) ) ", "h(A,f(B),g(a,H));");
+        Check.taken(SYMBOLS + "rule g ( A , A ) = f ( A ) ; term A", "g(A,A)=f(A);A;");
+        Check.refused(1, "|");
+        Check.refused(1, "   |");
+        Check.refused(1, "|rule");
+        Check.refused(1, "|;");
+        Check.refused(1, "|System");
+        Check.refused(1, "|systems");
+        Check.refused(1, "|syste");
+        Check.refused(1, "system;|");
+        Check.refused(1, "system;  |");
+        Check.refused(1, "system |symbol a 0");
+        Check.refused(1, "system;|;");
+        Check.refused(1, "system;|symbols a 0");
+        Check.refused(1, "system;|system");
+        Check.refused(1, "system;|a");
+        Check.refused(1, "system;|A");
+        Check.refused(1, "system;|1");
+        Check.refused(1, "system|=");
+        Check.refused(1, "system|,");
+        Check.refused(1, "system|(");
+        Check.refused(1, "system|)");
+        Check.refused(1, "system|0");
+        Check.refused(1, "system|A");
+        Check.refused(1, SYMBOLS + "term a |term a");
+        Check.refused(1, SYMBOLS + "term a;|");
         for (int bad : new int[] {0, 1, 9, 10, 13, 31, '!', '*', '-', '.', ':', '<', '>', '?', '@', 'I', 'Z', '[', '`',
             '{', '|' + 1, '~', 127, 128, 160, 193, 225, 255}) {
-            refused(1, "system |" + (char) bad);
-            refused(1, SYMBOLS + "term |" + (char) bad);
+            Check.refused(1, "system |" + (char) bad);
+            Check.refused(1, SYMBOLS + "term |" + (char) bad);
         }
     }
 
     private static void words() {
-        taken("system;symbol abcdef 0;term abcdef", "abcdef;");
-        taken("system;symbol rule 1;symbol system 0;symbol term 2;symbol symbol 0;symbol copy 0;symbol flip 0;symbol step "
+        Check.taken("system;symbol abcdef 0;term abcdef", "abcdef;");
+        Check.taken("system;symbol rule 1;symbol system 0;symbol term 2;symbol symbol 0;symbol copy 0;symbol flip 0;symbol step "
                 + "0;rule rule(A)=system;term term(copy,term(flip,rule(step)));step 0;copy 0",
                 "rule(A)=system;term(copy,term(flip,system));term(copy,term(flip,system));");
-        refused(1, "system;symbol |abcdefg 0");
-        refused(1, "system;symbol abcdef 0;term |abcdefg");
-        refused(1, "system;|symbola 0");
-        refused(1, "system;|symbo a 0");
-        refused(1, SYMBOLS + "|rulex a=a");
-        refused(1, SYMBOLS + "|rul a=a");
-        refused(1, SYMBOLS + "|terms a");
-        refused(1, SYMBOLS + "term a;|copyx 0");
-        refused(1, SYMBOLS + "rule a=a;|flips 0");
-        refused(1, SYMBOLS + "rule a=a;term a;|steps 0");
-        refused(1, "system;symbol |Ab 0");
-        refused(1, "system;symbol |1 0");
-        refused(1, "system;symbol |");
-        refused(1, "system;symbol |;");
-        refused(1, "system;symbol a|");
-        refused(1, "system;symbol a |b");
-        refused(1, "system;symbol a|B");
-        refused(1, "system;symbol a|;");
-        refused(1, "system;symbol a1|2");
-        refused(1, "system;symbol a 0|0");
+        Check.refused(1, "system;symbol |abcdefg 0");
+        Check.refused(1, "system;symbol abcdef 0;term |abcdefg");
+        Check.refused(1, "system;|symbola 0");
+        Check.refused(1, "system;|symbo a 0");
+        Check.refused(1, SYMBOLS + "|rulex a=a");
+        Check.refused(1, SYMBOLS + "|rul a=a");
+        Check.refused(1, SYMBOLS + "|terms a");
+        Check.refused(1, SYMBOLS + "term a;|copyx 0");
+        Check.refused(1, SYMBOLS + "rule a=a;|flips 0");
+        Check.refused(1, SYMBOLS + "rule a=a;term a;|steps 0");
+        Check.refused(1, "system;symbol |Ab 0");
+        Check.refused(1, "system;symbol |1 0");
+        Check.refused(1, "system;symbol |");
+        Check.refused(1, "system;symbol |;");
+        Check.refused(1, "system;symbol a|");
+        Check.refused(1, "system;symbol a |b");
+        Check.refused(1, "system;symbol a|B");
+        Check.refused(1, "system;symbol a|;");
+        Check.refused(1, "system;symbol a1|2");
+        Check.refused(1, "system;symbol a 0|0");
     }
 
     private static void symbols() {
         OverlapBench bench = Check.load("system;symbol a 0;symbol b 1;symbol c 2;symbol d 3;symbol aa 3;symbol ab 2;symbol ba "
                 + "1;symbol abc 0");
         Check.due("8 symbols", bench.symbolCount(), 8);
-        refused(2, "system;symbol a |4");
-        refused(2, "system;symbol a |9");
-        refused(3, "system;symbol a 0;symbol |a 1");
-        refused(3, "system;symbol a 0;symbol |a");
-        refused(3, "system;symbol a 0;symbol b 0;symbol |a 9");
+        Check.refused(2, "system;symbol a |4");
+        Check.refused(2, "system;symbol a |9");
+        Check.refused(3, "system;symbol a 0;symbol |a 1");
+        Check.refused(3, "system;symbol a 0;symbol |a");
+        Check.refused(3, "system;symbol a 0;symbol b 0;symbol |a 9");
         String eight = "system";
         for (char c = 'a'; c < 'i'; c++) {
             eight += ";symbol " + c + " 0";
         }
-        taken(eight, "");
-        refused(5, eight + ";|symbol i 0");
-        refused(5, eight + ";|symbol");
-        refused(5, eight + ";|symbol a 9");
+        Check.taken(eight, "");
+        Check.refused(5, eight + ";|symbol i 0");
+        Check.refused(5, eight + ";|symbol");
+        Check.refused(5, eight + ";|symbol a 9");
     }
 
     private static void termErrors() {
-        refused(3, SYMBOLS + "term |b");
-        refused(3, SYMBOLS + "term g(a,|ff)");
-        refused(3, SYMBOLS + "term |term");
-        refused(3, "system;term |a;symbol a 0");
-        refused(1, SYMBOLS + "term |");
-        refused(1, SYMBOLS + "term |;");
-        refused(1, SYMBOLS + "term |1");
-        refused(1, SYMBOLS + "term |(a)");
-        refused(1, SYMBOLS + "term |=");
-        refused(1, SYMBOLS + "term a|(");
-        refused(1, SYMBOLS + "term a|()");
-        refused(1, SYMBOLS + "term a|,");
-        refused(1, SYMBOLS + "term a|=a");
-        refused(1, SYMBOLS + "term A|(a)");
-        refused(1, SYMBOLS + "term A|B");
-        refused(1, SYMBOLS + "term f|");
-        refused(1, SYMBOLS + "term f|;");
-        refused(1, SYMBOLS + "term f|,");
-        refused(1, SYMBOLS + "term f |a");
-        refused(1, SYMBOLS + "term f(|");
-        refused(1, SYMBOLS + "term f(|)");
-        refused(1, SYMBOLS + "term f(a|");
-        refused(1, SYMBOLS + "term f(a|,a)");
-        refused(1, SYMBOLS + "term f(a|;");
-        refused(1, SYMBOLS + "term f(a)|)");
-        refused(1, SYMBOLS + "term g(a|)");
-        refused(1, SYMBOLS + "term g(a,|)");
-        refused(1, SYMBOLS + "term g(a,a|,a)");
-        refused(1, SYMBOLS + "term g(f(a|,a),a)");
-        refused(1, SYMBOLS + "term h(a,a|)");
-        refused(1, SYMBOLS + "term h(a,g(a|),a)");
-        refused(1, SYMBOLS + "term h(a,g(a,a),a|,");
-        refused(1, SYMBOLS + "term h(a,g(a,a),a|");
-        refused(1, SYMBOLS + "term h(a,g(a,a),a|;");
+        Check.refused(3, SYMBOLS + "term |b");
+        Check.refused(3, SYMBOLS + "term g(a,|ff)");
+        Check.refused(3, SYMBOLS + "term |term");
+        Check.refused(3, "system;term |a;symbol a 0");
+        Check.refused(1, SYMBOLS + "term |");
+        Check.refused(1, SYMBOLS + "term |;");
+        Check.refused(1, SYMBOLS + "term |1");
+        Check.refused(1, SYMBOLS + "term |(a)");
+        Check.refused(1, SYMBOLS + "term |=");
+        Check.refused(1, SYMBOLS + "term a|(");
+        Check.refused(1, SYMBOLS + "term a|()");
+        Check.refused(1, SYMBOLS + "term a|,");
+        Check.refused(1, SYMBOLS + "term a|=a");
+        Check.refused(1, SYMBOLS + "term A|(a)");
+        Check.refused(1, SYMBOLS + "term A|B");
+        Check.refused(1, SYMBOLS + "term f|");
+        Check.refused(1, SYMBOLS + "term f|;");
+        Check.refused(1, SYMBOLS + "term f|,");
+        Check.refused(1, SYMBOLS + "term f |a");
+        Check.refused(1, SYMBOLS + "term f(|");
+        Check.refused(1, SYMBOLS + "term f(|)");
+        Check.refused(1, SYMBOLS + "term f(a|");
+        Check.refused(1, SYMBOLS + "term f(a|,a)");
+        Check.refused(1, SYMBOLS + "term f(a|;");
+        Check.refused(1, SYMBOLS + "term f(a)|)");
+        Check.refused(1, SYMBOLS + "term g(a|)");
+        Check.refused(1, SYMBOLS + "term g(a,|)");
+        Check.refused(1, SYMBOLS + "term g(a,a|,a)");
+        Check.refused(1, SYMBOLS + "term g(f(a|,a),a)");
+        Check.refused(1, SYMBOLS + "term h(a,a|)");
+        Check.refused(1, SYMBOLS + "term h(a,g(a|),a)");
+        Check.refused(1, SYMBOLS + "term h(a,g(a,a),a|,");
+        Check.refused(1, SYMBOLS + "term h(a,g(a,a),a|");
+        Check.refused(1, SYMBOLS + "term h(a,g(a,a),a|;");
     }
 
     private static void ruleErrors() {
-        refused(1, SYMBOLS + "rule |");
-        refused(1, SYMBOLS + "rule |=a");
-        refused(1, SYMBOLS + "rule a|");
-        refused(1, SYMBOLS + "rule a|;");
-        refused(1, SYMBOLS + "rule a|(");
-        refused(1, SYMBOLS + "rule a=|");
-        refused(1, SYMBOLS + "rule a=|=");
-        refused(1, SYMBOLS + "rule a=|;");
-        refused(1, SYMBOLS + "rule a=a|=a");
-        refused(3, SYMBOLS + "rule |b=a");
-        refused(3, SYMBOLS + "rule a=|b");
-        refused(4, SYMBOLS + "rule |A=a");
-        refused(4, SYMBOLS + "rule |A");
-        refused(4, SYMBOLS + "rule |H(");
-        refused(4, SYMBOLS + "rule a=|A");
-        refused(4, SYMBOLS + "rule f(A)=|B");
-        refused(4, SYMBOLS + "rule f(A)=g(A,|B)");
-        refused(4, SYMBOLS + "rule f(A)=A;rule f(B)=|A");
-        taken(SYMBOLS + "rule h(A,B,C)=h(C,B,f(A));rule a=a", "h(A,B,C)=h(C,B,f(A));a=a;");
+        Check.refused(1, SYMBOLS + "rule |");
+        Check.refused(1, SYMBOLS + "rule |=a");
+        Check.refused(1, SYMBOLS + "rule a|");
+        Check.refused(1, SYMBOLS + "rule a|;");
+        Check.refused(1, SYMBOLS + "rule a|(");
+        Check.refused(1, SYMBOLS + "rule a=|");
+        Check.refused(1, SYMBOLS + "rule a=|=");
+        Check.refused(1, SYMBOLS + "rule a=|;");
+        Check.refused(1, SYMBOLS + "rule a=a|=a");
+        Check.refused(3, SYMBOLS + "rule |b=a");
+        Check.refused(3, SYMBOLS + "rule a=|b");
+        Check.refused(4, SYMBOLS + "rule |A=a");
+        Check.refused(4, SYMBOLS + "rule |A");
+        Check.refused(4, SYMBOLS + "rule |H(");
+        Check.refused(4, SYMBOLS + "rule a=|A");
+        Check.refused(4, SYMBOLS + "rule f(A)=|B");
+        Check.refused(4, SYMBOLS + "rule f(A)=g(A,|B)");
+        Check.refused(4, SYMBOLS + "rule f(A)=A;rule f(B)=|A");
+        Check.taken(SYMBOLS + "rule h(A,B,C)=h(C,B,f(A));rule a=a", "h(A,B,C)=h(C,B,f(A));a=a;");
     }
 
     private static void limits() {
         String six = SYMBOLS + Check.repeat("rule f(A)=A;", 6);
-        taken(six + "term A", Check.repeat("f(A)=A;", 6) + "A;");
-        refused(5, six + "|rule f(A)=A");
-        refused(5, six + "|rule");
-        refused(5, six + "|rule A");
+        Check.taken(six + "term A", Check.repeat("f(A)=A;", 6) + "A;");
+        Check.refused(5, six + "|rule f(A)=A");
+        Check.refused(5, six + "|rule");
+        Check.refused(5, six + "|rule A");
         String terms = SYMBOLS + Check.repeat("term A;", 6);
-        taken(terms + "rule f(A)=A", "f(A)=A;" + Check.repeat("A;", 6));
-        refused(5, terms + "|term A");
-        refused(5, terms + "|term");
-        refused(5, terms + "|copy 0");
-        refused(5, terms + "|copy 9");
-        refused(5, SYMBOLS + "term A;" + Check.repeat("copy 0;", 5) + "|copy 0");
+        Check.taken(terms + "rule f(A)=A", "f(A)=A;" + Check.repeat("A;", 6));
+        Check.refused(5, terms + "|term A");
+        Check.refused(5, terms + "|term");
+        Check.refused(5, terms + "|copy 0");
+        Check.refused(5, terms + "|copy 9");
+        Check.refused(5, SYMBOLS + "term A;" + Check.repeat("copy 0;", 5) + "|copy 0");
 
         String eleven = Check.repeat("f(", 11);
         String closed = Check.repeat(")", 11);
-        taken(SYMBOLS + "rule " + eleven + "a" + closed + "=" + eleven + "a" + closed,
+        Check.taken(SYMBOLS + "rule " + eleven + "a" + closed + "=" + eleven + "a" + closed,
                 eleven + "a" + closed + "=" + eleven + "a" + closed + ";");
-        refused(5, SYMBOLS + "rule " + eleven + "f(|a)" + closed + "=a");
-        refused(5, SYMBOLS + "rule " + eleven + "f(|A)" + closed + "=a");
-        refused(5, SYMBOLS + "rule " + eleven + "f(|f");
-        refused(3, SYMBOLS + "rule " + eleven + "f(|b");
-        refused(1, SYMBOLS + "rule " + eleven + "f(|)");
-        refused(5, SYMBOLS + "rule f(A)=" + eleven + "f(|a");
-        refused(5, SYMBOLS + "rule f(A)=" + eleven + "f(|A");
-        refused(4, SYMBOLS + "rule f(A)=" + eleven + "f(|B");
-        refused(3, SYMBOLS + "rule f(A)=" + eleven + "f(|b");
-        refused(5, SYMBOLS + "rule h(h(a,a,a),h(a,a,a),h(a,a,|h(a,a,a)))=a");
+        Check.refused(5, SYMBOLS + "rule " + eleven + "f(|a)" + closed + "=a");
+        Check.refused(5, SYMBOLS + "rule " + eleven + "f(|A)" + closed + "=a");
+        Check.refused(5, SYMBOLS + "rule " + eleven + "f(|f");
+        Check.refused(3, SYMBOLS + "rule " + eleven + "f(|b");
+        Check.refused(1, SYMBOLS + "rule " + eleven + "f(|)");
+        Check.refused(5, SYMBOLS + "rule f(A)=" + eleven + "f(|a");
+        Check.refused(5, SYMBOLS + "rule f(A)=" + eleven + "f(|A");
+        Check.refused(4, SYMBOLS + "rule f(A)=" + eleven + "f(|B");
+        Check.refused(3, SYMBOLS + "rule f(A)=" + eleven + "f(|b");
+        Check.refused(5, SYMBOLS + "rule h(h(a,a,a),h(a,a,a),h(a,a,|h(a,a,a)))=a");
 
         String chain = Check.repeat("f(", 39);
         String end = Check.repeat(")", 39);
-        taken(SYMBOLS + "term " + chain + "a" + end, chain + "a" + end + ";");
-        refused(5, SYMBOLS + "term " + chain + "f(|a)" + end);
-        refused(5, SYMBOLS + "term " + chain + "f(|A)" + end);
-        refused(3, SYMBOLS + "term " + chain + "f(|x)" + end);
-        refused(1, SYMBOLS + "term " + chain + "f(|1)" + end);
+        Check.taken(SYMBOLS + "term " + chain + "a" + end, chain + "a" + end + ";");
+        Check.refused(5, SYMBOLS + "term " + chain + "f(|a)" + end);
+        Check.refused(5, SYMBOLS + "term " + chain + "f(|A)" + end);
+        Check.refused(3, SYMBOLS + "term " + chain + "f(|x)" + end);
+        Check.refused(1, SYMBOLS + "term " + chain + "f(|1)" + end);
     }
 
     private static void indexItems() {
-        refused(1, SYMBOLS + "copy|");
-        refused(1, SYMBOLS + "copy |a");
-        refused(1, SYMBOLS + "flip |A");
-        refused(1, SYMBOLS + "step |;");
-        refused(2, SYMBOLS + "copy |0");
-        refused(2, SYMBOLS + "flip |0");
-        refused(2, SYMBOLS + "step |0");
-        refused(2, SYMBOLS + "term a;copy |1");
-        refused(2, SYMBOLS + "term a;rule a=a;step |1");
-        refused(2, SYMBOLS + "term f(a);rule f(a)=a;flip |1");
-        refused(2, SYMBOLS + "term a;flip |0");
-        refused(1, SYMBOLS + "term a;copy 0|0");
-        taken(SYMBOLS + "term f(B);copy0;copy 1", "f(B);f(B);f(B);");
+        Check.refused(1, SYMBOLS + "copy|");
+        Check.refused(1, SYMBOLS + "copy |a");
+        Check.refused(1, SYMBOLS + "flip |A");
+        Check.refused(1, SYMBOLS + "step |;");
+        Check.refused(2, SYMBOLS + "copy |0");
+        Check.refused(2, SYMBOLS + "flip |0");
+        Check.refused(2, SYMBOLS + "step |0");
+        Check.refused(2, SYMBOLS + "term a;copy |1");
+        Check.refused(2, SYMBOLS + "term a;rule a=a;step |1");
+        Check.refused(2, SYMBOLS + "term f(a);rule f(a)=a;flip |1");
+        Check.refused(2, SYMBOLS + "term a;flip |0");
+        Check.refused(1, SYMBOLS + "term a;copy 0|0");
+        Check.taken(SYMBOLS + "term f(B);copy0;copy 1", "f(B);f(B);f(B);");
     }
 
     private static void actions() {
-        refused(4, SYMBOLS + "rule f(A)=A;flip |0");
-        refused(4, SYMBOLS + "rule g(A,B)=f(A);flip |0");
-        refused(4, SYMBOLS + "term f(a);step |0");
-        refused(4, SYMBOLS + "rule f(A)=A;term f(a);step 0;step |0");
-        refused(1, SYMBOLS + "rule f(A)=g(A,A);flip 0|0");
-        taken(SYMBOLS + "rule f(A)=g(A,A);flip 0", "g(A,A)=f(A);");
-        taken(SYMBOLS + "rule f(A)=g(A,A);flip 0;flip 0", "f(A)=g(A,A);");
-        taken(SYMBOLS + "rule f(A)=A;term g(f(f(a)),f(a));copy 0;step 1;step 1;copy 1",
+        Check.refused(4, SYMBOLS + "rule f(A)=A;flip |0");
+        Check.refused(4, SYMBOLS + "rule g(A,B)=f(A);flip |0");
+        Check.refused(4, SYMBOLS + "term f(a);step |0");
+        Check.refused(4, SYMBOLS + "rule f(A)=A;term f(a);step 0;step |0");
+        Check.refused(1, SYMBOLS + "rule f(A)=g(A,A);flip 0|0");
+        Check.taken(SYMBOLS + "rule f(A)=g(A,A);flip 0", "g(A,A)=f(A);");
+        Check.taken(SYMBOLS + "rule f(A)=g(A,A);flip 0;flip 0", "f(A)=g(A,A);");
+        Check.taken(SYMBOLS + "rule f(A)=A;term g(f(f(a)),f(a));copy 0;step 1;step 1;copy 1",
                 "f(A)=A;g(f(f(a)),f(a));g(a,f(a));g(a,f(a));");
-        taken(SYMBOLS + "rule f(A)=a;term f(A);rule f(f(A))=f(A);step 0;rule a=f(a);step 0",
+        Check.taken(SYMBOLS + "rule f(A)=a;term f(A);rule f(f(A))=f(A);step 0;rule a=f(a);step 0",
                 "f(A)=a;f(f(A))=f(A);a=f(a);f(a);");
         // The argument has 26 nodes: three copies and two symbols make 80, one node more is too large.
         String big = "h(" + Check.repeat("f(", 11) + "a" + Check.repeat(")", 11) + "," + Check.repeat("f(", 11) + "a"
@@ -384,6 +366,6 @@ public final class InputTest {
         String grow = "system;symbol a 0;symbol f 1;symbol h 3;symbol k 1;rule k(A)=f(h(A,A,A));term k(";
         OverlapBench bench = Check.load(grow + big + ");step 0");
         Check.due("step to 80 nodes", bench.termSize(0), 80);
-        refused(4, grow + "f(" + big + "));step |0");
+        Check.refused(4, grow + "f(" + big + "));step |0");
     }
 }

@@ -74,7 +74,7 @@ public final class OutputTest {
         bench.replaceSubterm(0, 70, 2);
         Check.due("size", bench.termSize(0), 80);
         String text = Check.repeat("ghijkl(", 79) + "A" + Check.repeat(")", 79);
-        Check.due("long", Check.term(bench, 0), text);
+        Check.longOutput("long", bench, bench.writeTerm(0), text);
         OverlapBench wide = Check.load("system;symbol abcdef 0;symbol ghijkl 3;term ghijkl(ghijkl(ghijkl(abcdef,abcdef,"
                 + "abcdef),ghijkl(abcdef,abcdef,abcdef),abcdef),A,A)");
         wide.replaceSubterm(0, 12, 0);
@@ -84,7 +84,7 @@ public final class OutputTest {
         Check.due("wide size", wide.termSize(0), 73);
         String leaves = "ghijkl(abcdef,abcdef,abcdef)";
         String part = "ghijkl(ghijkl(" + leaves + "," + leaves + ",abcdef),A,";
-        Check.due("wide", Check.term(wide, 0), Check.repeat(part, 6) + "A" + Check.repeat(")", 6));
+        Check.longOutput("wide", wide, wide.writeTerm(0), Check.repeat(part, 6) + "A" + Check.repeat(")", 6));
     }
 
     private static void bytes() {
