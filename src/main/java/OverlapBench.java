@@ -581,7 +581,7 @@ public final class OverlapBench {
      * signature; a variable stands as -1 - variable.
      */
     private static final class Term {
-        static final int OUTSIDE = Integer.MIN_VALUE;
+        static final int OUTSIDE = -2147483648;
 
         final int[] nodes;
         int size = 0;

@@ -1,3 +1,6 @@
+import java.util.List;
+import java.util.function.Consumer;
+
 /** The number of calls for which an object is promised to answer. */
 final class CallEdges {
     private static final int CALLS = 512;
@@ -5,7 +8,11 @@ final class CallEdges {
     private CallEdges() {
     }
 
-    static void run(Doc doc) {
+    static List<Consumer<Doc>> parts() {
+        return List.of(CallEdges::calls);
+    }
+
+    private static void calls(Doc doc) {
         doc.plain("What it is", "A workbench for first-order term rewriting", "what later calls answer is free");
         doc.edge("What it is", "An object is used for at most 512 calls");
         changes();

@@ -1,5 +1,6 @@
 import java.util.ArrayList;
 import java.util.List;
+import java.util.function.Consumer;
 
 /** Changes, undo and saved states at their edges: a part of section 7 and what the promises 55 to 64 answer. */
 final class ChangeEdges {
@@ -8,20 +9,12 @@ final class ChangeEdges {
     private ChangeEdges() {
     }
 
-    static void run(Doc doc) {
-        eachChange(doc);
-        latestEight(doc);
-        rulesAndTermsAlone(doc);
-        copies(doc);
-        replacements(doc);
-        swaps(doc);
-        removedRules(doc);
-        reversed(doc);
-        removedTerms(doc);
-        undone(doc);
-        counted(doc);
-        saved(doc);
-        restored(doc);
+    static List<Consumer<Doc>> parts() {
+        return List.of(
+                ChangeEdges::eachChange, ChangeEdges::latestEight, ChangeEdges::rulesAndTermsAlone,
+                ChangeEdges::copies, ChangeEdges::replacements, ChangeEdges::swaps, ChangeEdges::removedRules,
+                ChangeEdges::reversed, ChangeEdges::removedTerms, ChangeEdges::undone, ChangeEdges::counted,
+                ChangeEdges::saved, ChangeEdges::restored);
     }
 
     interface Change {

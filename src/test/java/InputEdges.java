@@ -1,3 +1,6 @@
+import java.util.List;
+import java.util.function.Consumer;
+
 /** The promises 1 to 6 at their edges: a new object, the input buffer and the latest parse error. */
 final class InputEdges {
     private static final String SYMBOLS = TermEdges.SYMBOLS;
@@ -6,18 +9,11 @@ final class InputEdges {
     private InputEdges() {
     }
 
-    static void run(Doc doc) {
-        newObject(doc);
-        bytes(doc);
-        fullBuffer(doc);
-        firstBytes(doc);
-        emptied(doc);
-        cleared(doc);
-        rules(doc);
-        codes(doc);
-        positions(doc);
-        lengths(doc);
-        constants(doc);
+    static List<Consumer<Doc>> parts() {
+        return List.of(
+                InputEdges::newObject, InputEdges::bytes, InputEdges::fullBuffer, InputEdges::firstBytes,
+                InputEdges::emptied, InputEdges::cleared, InputEdges::rules, InputEdges::codes, InputEdges::positions,
+                InputEdges::lengths, InputEdges::constants);
     }
 
     private static void newObject(Doc doc) {

@@ -1,3 +1,6 @@
+import java.util.List;
+import java.util.function.Consumer;
+
 /** Section 5 (written terms) and what the promises 46 to 50 answer at their edges. */
 final class OutputEdges {
     private static final String SYMBOLS = TermEdges.SYMBOLS;
@@ -5,13 +8,10 @@ final class OutputEdges {
     private OutputEdges() {
     }
 
-    static void run(Doc doc) {
-        written(doc);
-        terms(doc);
-        rules(doc);
-        normalForms(doc);
-        pairs(doc);
-        bytes(doc);
+    static List<Consumer<Doc>> parts() {
+        return List.of(
+                OutputEdges::written, OutputEdges::terms, OutputEdges::rules, OutputEdges::normalForms,
+                OutputEdges::pairs, OutputEdges::bytes);
     }
 
     private static void written(Doc doc) {
@@ -100,6 +100,18 @@ final class OutputEdges {
         Check.due("12 bytes", bench.writePair(1), 12);
         OverlapBench least = Check.load(SYMBOLS + "rule a=b;rule a=a");
         Check.due("4 bytes", least.writePair(0), 4);
+        // A right side of four times 19 nodes and four more: both terms of the pair have 80.
+        String system = PairEdges.sized(80);
+        OverlapBench most = Check.load(sixLetters(system.substring(0, system.length() - 1) + "f(f(h(A,A,g(A,A))))"));
+        String six = "h(A,f(A),f(A))";
+        String part = "h(" + six + "," + six + "," + six + ")";
+        String first = "g(h(" + part + "," + part + "," + part + "),f(f(" + part + ")))";
+        String second = "f(f(h(" + part + "," + part + ",g(" + part + "," + part + "))))";
+        Check.longOutput("twice 80 nodes", most, most.writePair(0), sixLetters(first + "<>" + second));
+    }
+
+    private static String sixLetters(String text) {
+        return text.replaceAll("\\b([fgh])\\b", "$1$1$1$1$1$1");
     }
 
     private static void bytes(Doc doc) {

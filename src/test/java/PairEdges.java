@@ -1,3 +1,6 @@
+import java.util.List;
+import java.util.function.Consumer;
+
 /** Section 4 (critical pairs) and what the promises 38 to 45 answer at their edges. */
 final class PairEdges {
     private static final String SYMBOLS = TermEdges.SYMBOLS;
@@ -5,23 +8,12 @@ final class PairEdges {
     private PairEdges() {
     }
 
-    static void run(Doc doc) {
-        unifiers(doc);
-        overlaps(doc);
-        ownRoot(doc);
-        renaming(doc);
-        theTerms(doc);
-        numbering(doc);
-        leftOut(doc);
-        firstTwenty(doc);
-        equalTerms(doc);
-        names(doc);
-        joinLimit(doc);
-        joinSize(doc);
-        unifyAnswers(doc);
-        unifiedSizes(doc);
-        pairAnswers(doc);
-        joinAnswers(doc);
+    static List<Consumer<Doc>> parts() {
+        return List.of(
+                PairEdges::unifiers, PairEdges::overlaps, PairEdges::ownRoot, PairEdges::renaming, PairEdges::theTerms,
+                PairEdges::numbering, PairEdges::leftOut, PairEdges::firstTwenty, PairEdges::equalTerms,
+                PairEdges::names, PairEdges::joinLimit, PairEdges::joinSize, PairEdges::unifyAnswers,
+                PairEdges::unifiedSizes, PairEdges::pairAnswers, PairEdges::joinAnswers);
     }
 
     private static OverlapBench two(String first, String second) {
@@ -45,6 +37,9 @@ final class PairEdges {
         unifies("h(A,B,A)", "h(f(C),b,f(a))", 6);
         unifies("h(A,A,A)", "h(f(C),B,f(a))", 7);
         unifies("h(A,A,b)", "h(a,B,B)", 0);
+        unifies("h(a,b,A)", "h(H,H,H)", 0);
+        unifies("g(a,b)", "g(G,G)", 0);
+        unifies("g(G,H)", "g(H,H)", 3);
         doc.edge("4", "replaces no more than necessary");
         unifies("g(A,B)", "g(C,D)", 3);
         unifies("g(A,f(B))", "g(f(C),D)", 5);
@@ -52,6 +47,11 @@ final class PairEdges {
         doc.edge("4", "replaced by a term that contains the variable itself");
         unifies("g(A,A)", "g(B,f(B))", 0);
         unifies("g(A,f(A))", "g(B,B)", 0);
+        unifies("g(A,A)", "g(B,g(a,B))", 0);
+        unifies("g(A,A)", "g(B,g(B,a))", 0);
+        unifies("g(A,A)", "g(B,h(a,B,b))", 0);
+        unifies("g(A,A)", "g(H,h(a,b,f(H)))", 0);
+        unifies("g(A,A)", "g(B,h(a,b,f(H)))", 11);
         unifies("h(A,B,A)", "h(C,f(C),B)", 5);
         unifies("h(A,B,g(A,B))", "h(f(C),f(D),g(D,C))", 0);
         unifies("g(A,B)", "g(f(B),f(A))", 5);
@@ -129,7 +129,7 @@ final class PairEdges {
      * Two rules whose overlap replaces A by 58 nodes and B by 6, so that the pair has a term of so many nodes, 78 or more,
      * and one of 19: as the first and the second term of pair 0, and the other way in pair 1.
      */
-    private static String sized(int nodes) {
+    static String sized(int nodes) {
         return "system;symbol a 0;symbol f 1;symbol g 2;symbol h 3;symbol t 3;rule t(A,h(B,B,B),B)=g(A,"
                 + Check.repeat("f(", nodes - 78) + "h(B,B,B)" + Check.repeat(")", nodes - 78)
                 + ");rule t(h(A,A,A),A,h(B,f(B),f(B)))=A";
@@ -251,6 +251,16 @@ final class PairEdges {
         Check.due("A and f(A)", bench.unify(0, 1), true);
         Check.due("f(A) and A", bench.unify(1, 0), true);
         Check.due("the letters are not the same", bench.unify(4, 3), true);
+        for (char one = 'A'; one <= 'H'; one++) {
+            OverlapBench letters = two("g(" + one + ",b)", "h(g(a,A),g(a,B),g(a,C))");
+            OverlapBench others = two("g(" + one + ",b)", "h(g(a,D),g(a,E),g(a,F))");
+            OverlapBench last = two("g(" + one + ",b)", "h(g(a,G),g(a,H),g(a,A))");
+            for (int p = 1; p < 9; p += 3) {
+                Check.due(one + " and a letter at " + p, part(letters, p), true);
+                Check.due(one + " and another letter at " + p, part(others, p), true);
+                Check.due(one + " and a last letter at " + p, part(last, p), true);
+            }
+        }
         doc.edge("P38", "true if they have a unifier");
         Check.due("a cycle", bench.unify(2, 3), false);
         Check.due("a cycle back", bench.unify(3, 2), false);
@@ -261,6 +271,14 @@ final class PairEdges {
         eighty.copySubterm(0, 1);
         Check.due("80 nodes twice", eighty.unify(0, 1), true);
         Check.due("80 nodes and 79", eighty.unify(0, 2), false);
+    }
+
+    /** Whether term 0 unifies with a subterm of term 1. */
+    private static boolean part(OverlapBench bench, int position) {
+        int copy = bench.copySubterm(1, position);
+        boolean unifies = bench.unify(0, copy);
+        bench.removeTerm(copy);
+        return unifies;
     }
 
     private static void unifiedSizes(Doc doc) {
@@ -294,6 +312,19 @@ final class PairEdges {
         Check.due("no rules", Check.load("system").criticalPairCount(), 0);
         Check.due("no overlaps", Check.load(SYMBOLS + "rule a=b;rule f(b)=b").criticalPairCount(), 0);
         Check.due("one", Check.load(SYMBOLS + "rule a=b;rule f(a)=b").criticalPairCount(), 1);
+        OverlapBench kept = Check.load(SYMBOLS + "rule f(a)=b;rule a=b");
+        Check.due("one at first", kept.criticalPairCount(), 1);
+        kept.saveState(0);
+        kept.removeRule(1);
+        Check.due("none after a change", kept.criticalPairCount(), 0);
+        kept.restoreState(0);
+        Check.due("one after restoring", kept.criticalPairCount(), 1);
+        kept.removeRule(0);
+        Check.due("none after a change", kept.criticalPairCount(), 0);
+        kept.undo();
+        Check.due("one after undoing", kept.criticalPairCount(), 1);
+        Check.parse(kept, "system;symbol a 0;rule a=a;rule a=a");
+        Check.due("two of another system", kept.criticalPairCount(), 2);
         Check.due("30, of which 20", Check.load(SYMBOLS + Check.repeat("rule a=b;", 5) + "rule a=b").criticalPairCount(), 20);
         OverlapBench bench = Check.load(SYMBOLS + "rule a=b;rule f(f(f(f(f(f(f(f(f(f(f(a)))))))))))=b;rule g(A,B)=b;"
                 + "rule h(A,B,C)=b;rule f(b)=a;rule g(f(b),f(b))=a");

@@ -1,3 +1,6 @@
+import java.util.Arrays;
+import java.util.List;
+import java.util.function.Consumer;
 import java.util.function.Supplier;
 
 /**
@@ -53,13 +56,10 @@ final class RefusalEdges {
         new Method("P63", "l", (b, a) -> b.saveState(a[0])),
     };
 
-    static void run(Doc doc) {
-        withoutSystem(doc);
-        theOthers(doc);
-        wrongIndices(doc);
-        notAllowed(doc);
-        severalExceptions(doc);
-        parsing(doc);
+    static List<Consumer<Doc>> parts() {
+        return List.of(
+                RefusalEdges::withoutSystem, RefusalEdges::theOthers, RefusalEdges::wrongIndices,
+                RefusalEdges::notAllowed, RefusalEdges::severalExceptions, RefusalEdges::parsing);
     }
 
     /** A workbench with something in every part of it. */
@@ -165,7 +165,7 @@ final class RefusalEdges {
         OverlapBench none = new OverlapBench();
         int[] allowed = allowed(method.kinds);
         int[] wrong = allowed.clone();
-        java.util.Arrays.fill(wrong, -1);
+        Arrays.fill(wrong, -1);
         Check.throwsExactly(method.promise + " on a new object", Check.ILLEGAL_STATE, () -> method.call.run(none, allowed));
         Check.throwsExactly(method.promise + " with wrong indices", Check.ILLEGAL_STATE, () -> method.call.run(none, wrong));
         Check.parse(none, "system;symbol a 0;term a;");

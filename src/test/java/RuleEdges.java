@@ -1,3 +1,6 @@
+import java.util.List;
+import java.util.function.Consumer;
+
 /** Section 2 (rules and matching) and what the promises 10 to 17, 27 and 28 answer at their edges. */
 final class RuleEdges {
     private static final String SYMBOLS = TermEdges.SYMBOLS;
@@ -5,19 +8,11 @@ final class RuleEdges {
     private RuleEdges() {
     }
 
-    static void run(Doc doc) {
-        sixRules(doc);
-        sides(doc);
-        matching(doc);
-        letters(doc);
-        rewriting(doc);
-        uses(doc);
-        counts(doc);
-        linear(doc);
-        duplicating(doc);
-        decreasing(doc);
-        matches(doc);
-        ruleAt(doc);
+    static List<Consumer<Doc>> parts() {
+        return List.of(
+                RuleEdges::sixRules, RuleEdges::sides, RuleEdges::matching, RuleEdges::letters, RuleEdges::rewriting,
+                RuleEdges::uses, RuleEdges::counts, RuleEdges::linear, RuleEdges::duplicating, RuleEdges::decreasing,
+                RuleEdges::matches, RuleEdges::ruleAt);
     }
 
     private static void sixRules(Doc doc) {
@@ -58,6 +53,12 @@ final class RuleEdges {
         Check.due("not at a variable", bench.matches(2, 5, 0), false);
         Check.due("a part of the left side", bench.matches(3, 0, 1), false);
         Check.due("two variables, equal terms", bench.matches(3, 0, 0), true);
+        OverlapBench open = Check.load(SYMBOLS + "rule g(A,A)=a;term g(g(A,a),g(A,a));term g(g(B,a),g(B,b));term g(g(a,H),g(a,H));"
+                + "term g(h(B,a,C),h(B,a,C));term g(h(B,a,C),h(B,a,B));term g(A,B)");
+        boolean[] same = {true, false, true, true, false, false};
+        for (int i = 0; i < 6; i++) {
+            Check.due("equal terms with variables " + i, open.matches(0, i, 0), same[i]);
+        }
         OverlapBench nine = Check.load(SYMBOLS + "rule h(h(A,B,C),h(D,E,F),g(G,H))=h(H,G,A);"
                 + "term h(h(f(A),a,B),h(C,D,f(f(b))),g(E,f(H)));term h(h(a,a,a),h(a,a,a),g(a,a));term h(h(a,a,a),h(a,a,a),f(a))");
         Check.due("8 variables", nine.matches(0, 0, 0), true);

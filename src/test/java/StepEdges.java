@@ -1,3 +1,6 @@
+import java.util.List;
+import java.util.function.Consumer;
+
 /** Section 3 (steps and normal forms) and what the promises 29 to 37 and 51 to 54 answer at their edges. */
 final class StepEdges {
     private static final String SYMBOLS = TermEdges.SYMBOLS;
@@ -5,20 +8,12 @@ final class StepEdges {
     private StepEdges() {
     }
 
-    static void run(Doc doc) {
-        redexes(doc);
-        firstRule(doc);
-        orders(doc);
-        tooLarge(doc);
-        reductions(doc);
-        fails(doc);
-        redexAnswers(doc);
-        shares(doc);
-        stepAnswers(doc);
-        normalForms(doc);
-        sameNormalForms(doc);
-        rewriteAnswers(doc);
-        normalizeAnswers(doc);
+    static List<Consumer<Doc>> parts() {
+        return List.of(
+                StepEdges::redexes, StepEdges::firstRule, StepEdges::orders, StepEdges::tooLarge,
+                StepEdges::reductions, StepEdges::fails, StepEdges::redexAnswers, StepEdges::shares,
+                StepEdges::stepAnswers, StepEdges::normalForms, StepEdges::sameNormalForms, StepEdges::rewriteAnswers,
+                StepEdges::normalizeAnswers);
     }
 
     private static void redexes(Doc doc) {

@@ -1,3 +1,6 @@
+import java.util.List;
+import java.util.function.Consumer;
+
 /** Section 1 (terms) and what the promises 7 to 9 and 18 to 26 answer at their edges. */
 final class TermEdges {
     static final String SYMBOLS = "system;symbol a 0;symbol b 0;symbol f 1;symbol g 2;symbol h 3;";
@@ -7,20 +10,11 @@ final class TermEdges {
     private TermEdges() {
     }
 
-    static void run(Doc doc) {
-        symbols(doc);
-        names(doc);
-        variables(doc);
-        arguments(doc);
-        positions(doc);
-        depths(doc);
-        sixTerms(doc);
-        symbolAnswers(doc);
-        termAnswers(doc);
-        nodeAnswers(doc);
-        termQuestions(doc);
-        averages(doc);
-        doc.plain("Terms", "The class parses");
+    static List<Consumer<Doc>> parts() {
+        return List.of(
+                TermEdges::symbols, TermEdges::names, TermEdges::variables, TermEdges::arguments, TermEdges::positions,
+                TermEdges::depths, TermEdges::sixTerms, TermEdges::symbolAnswers, TermEdges::termAnswers,
+                TermEdges::nodeAnswers, TermEdges::termQuestions, TermEdges::averages);
     }
 
     /** A chain of f with so many nodes, the last one as given. */
@@ -266,6 +260,7 @@ final class TermEdges {
     }
 
     private static void averages(Doc doc) {
+        doc.plain("Terms", "The class parses");
         doc.plain("P26", "Returns the average number of nodes");
         doc.edge("P26", "Returns the sum of the sizes of all terms");
         Check.due("one node", Check.load("system;term A").averageSize(), 1.0);

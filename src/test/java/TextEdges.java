@@ -1,3 +1,6 @@
+import java.util.List;
+import java.util.function.Consumer;
+
 /** Section 6 (input text): each sentence at its edges. The bar marks where an error is due, and is not part of the text. */
 final class TextEdges {
     private static final String SYMBOLS = TermEdges.SYMBOLS;
@@ -5,27 +8,13 @@ final class TextEdges {
     private TextEdges() {
     }
 
-    static void run(Doc doc) {
-        tokens(doc);
-        words(doc);
-        spaces(doc);
-        grammar(doc);
-        symbols(doc);
-        applications(doc);
-        order(doc);
-        copies(doc);
-        flips(doc);
-        steps(doc);
-        firstError(doc);
-        smallestCode(doc);
-        syntaxErrors(doc);
-        textEnds(doc);
-        rangeErrors(doc);
-        nameErrors(doc);
-        ruleErrors(doc);
-        itemLimits(doc);
-        nodeLimits(doc);
-        doc.plain("6", "The grammar is:");
+    static List<Consumer<Doc>> parts() {
+        return List.of(
+                TextEdges::tokens, TextEdges::words, TextEdges::spaces, TextEdges::grammar, TextEdges::symbols,
+                TextEdges::applications, TextEdges::order, TextEdges::copies, TextEdges::flips, TextEdges::steps,
+                TextEdges::firstError, TextEdges::smallestCode, TextEdges::syntaxErrors, TextEdges::textEnds,
+                TextEdges::rangeErrors, TextEdges::nameErrors, TextEdges::ruleErrors, TextEdges::itemLimits,
+                TextEdges::nodeLimits);
     }
 
     private static void tokens(Doc doc) {
@@ -103,6 +92,13 @@ final class TextEdges {
         String[] others = {"system", "a", "A", "0", ";", "=", ",", "(", ")"};
         for (String other : others) {
             Check.refused(1, SYMBOLS + "|" + other);
+        }
+        for (String keyword : new String[] {"symbol", "rule", "term", "copy", "flip", "step", "system"}) {
+            for (int i = 0; i < keyword.length(); i++) {
+                String other = keyword.substring(0, i) + (keyword.charAt(i) == 'x' ? 'y' : 'x') + keyword.substring(i + 1);
+                Check.refused(1, keyword.equals("system") ? "|" + other : SYMBOLS + "rule a=a;term a;|" + other + " 0");
+                Check.refused(1, keyword.equals("system") ? "|" + keyword.substring(0, i) : SYMBOLS + "|" + keyword.substring(0, i));
+            }
         }
         Check.refused(1, "|;system");
         Check.refused(1, "|symbol a 0");
@@ -397,6 +393,7 @@ final class TextEdges {
     }
 
     private static void nodeLimits(Doc doc) {
+        doc.plain("6", "The grammar is:");
         doc.edge("6", "the first token of the 13th node of a side of a rule");
         String twelve = TermEdges.chain(12, "a");
         Check.taken(SYMBOLS + "rule " + twelve + "=" + twelve, twelve + "=" + twelve + ";");
