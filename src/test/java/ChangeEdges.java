@@ -206,7 +206,7 @@ final class ChangeEdges {
         Check.throwsExactly("159", Check.ILLEGAL_ARGUMENT, () -> forty.replaceSubterm(0, 79, 0));
         Check.due("80 in place of 80", forty.replaceSubterm(0, 0, 0), 80);
         Check.due("80 in place of 3", forty.replaceSubterm(1, 0, 0), 80);
-        Check.due("3 changes less", forty.replaceSubterm(0, 0, 2), 2);
+        Check.due("a small one in place of 80", forty.replaceSubterm(0, 0, 2), 2);
     }
 
     private static void swaps(Doc doc) {
