@@ -100,10 +100,10 @@ final class OutputEdges {
         Check.due("12 bytes", bench.writePair(1), 12);
         OverlapBench least = Check.load(SYMBOLS + "rule a=b;rule a=a");
         Check.due("4 bytes", least.writePair(0), 4);
-        // A right side of four times 19 nodes and four more: both terms of the pair have 80.
-        String system = PairEdges.sized(80);
+        // A right side of four times 19 nodes and four more: both terms of the pair have 80, and all are symbols.
+        String system = PairEdges.sized(80).replace("h(B,f(B),f(B))", "h(a,f(a),f(a))");
         OverlapBench most = Check.load(sixLetters(system.substring(0, system.length() - 1) + "f(f(h(A,A,g(A,A))))"));
-        String six = "h(A,f(A),f(A))";
+        String six = "h(a,f(a),f(a))";
         String part = "h(" + six + "," + six + "," + six + ")";
         String first = "g(h(" + part + "," + part + "," + part + "),f(f(" + part + ")))";
         String second = "f(f(h(" + part + "," + part + ",g(" + part + "," + part + "))))";
@@ -111,7 +111,7 @@ final class OutputEdges {
     }
 
     private static String sixLetters(String text) {
-        return text.replaceAll("\\b([fgh])\\b", "$1$1$1$1$1$1");
+        return text.replaceAll("\\b([afgh])\\b", "$1$1$1$1$1$1");
     }
 
     private static void bytes(Doc doc) {
