@@ -958,7 +958,7 @@ public final class OverlapBench {
         int redex(State state, Term term, boolean innermost) {
             int best = NONE;
             int end = term.size;
-            for (int p = 0; p < end; p++) {
+            for (int p = 0; p < term.size && p < end; p++) {
                 if (firstRule(state, term, p) != NONE) {
                     if (!innermost) {
                         return p;

@@ -130,7 +130,7 @@ public final class ModelTest {
     }
 
     private void load() {
-        String text = SystemText.make(random);
+        String text = below(3) == 0 ? HardText.make(random) : SystemText.make(random);
         if (below(5) == 0) {
             text = mutated(text);
         }
@@ -486,7 +486,7 @@ public final class ModelTest {
                 buffer = new StringBuilder();
                 calls = 0;
             }
-            String text = mutated(SystemText.make(random));
+            String text = mutated(below(3) == 0 ? HardText.make(random) : SystemText.make(random));
             log = text;
             feed(text);
             parse(text.length());
